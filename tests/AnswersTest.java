@@ -42,6 +42,17 @@ public final class AnswersTest extends Checks {
         due("of(0, 4): nothing is changed", z.of(0, 4), 0);
     }
 
+    /** What is proven and the sort stay as they are in every row and sum. */
+    private static void promise18Told() {
+        WhoMustSwear x = suited("bind y<9&s=2&w=3&x=1&b=1&h=1", 3);
+        x.claim(0, 10, 2);
+        for (int what = 0; what < 4; what++) x.proof(1, what, what == 0 ? 3 : 1);
+        x.truth(1, 9);
+        best(x, 0, 0, 2);
+        due("wise(1)", x.wise(1), 99);
+        due("wise(0)", x.wise(0), 1);
+    }
+
     private static void promise18FewestOaths() {
         best(suited("oath p u=0", 10), 0, 4);
         best(suited("oath p u=1", 10), 0, 0);
@@ -78,6 +89,11 @@ public final class AnswersTest extends Checks {
         WhoMustSwear y = suited("oath p a>0;lose 1 3", 10);
         y.truth(0, 5);
         best(y, 1, 0);
+        x.truth(0, 99);
+        due("comes(0): as it is told", x.comes(0), 3);
+        due("best(0, 0)", x.best(0, 0), 1);
+        x.answer(0, 10, true);
+        due("comes(0): as it is told now", x.comes(0), 0);
         WhoMustSwear z = suited("oath p a>0;over a>0;lose 3 1", 10);
         z.truth(0, 5);
         best(z, 1, 0);
@@ -157,6 +173,7 @@ public final class AnswersTest extends Checks {
     public static void main(String[] args) {
         promise18Each();
         promise18Half();
+        promise18Told();
         promise18FewestOaths();
         promise18Rows();
         promise18Lose();

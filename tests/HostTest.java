@@ -51,6 +51,8 @@ public final class HostTest extends Checks {
         act(x, 0, 3, 5, 0);
         act(x, 0, 0, 5, 8, 10);
         act(x, 0, -1, 5, 0);
+        act(x, 1, 3, 5, 0);
+        act(x, 6, 3, 5, 0);
         act(x, -1, 0, 5, 0);
         act(x, Integer.MAX_VALUE, Integer.MIN_VALUE, 5, 0);
         act(new WhoMustSwear(), 0, 1, 5, 5, 11, 10);
@@ -117,6 +119,7 @@ public final class HostTest extends Checks {
         due("tape(0, -1, 99)", x.tape(0, -1, 99), 1);
         due("tape(0, -1, -99)", x.tape(0, -1, -99), 1);
         due("item(0, 0, 1)", x.item(0, 0, 1), -11);
+        due("read(0, 0)", x.read(0, 0), NO);
         due("tape(5, 0, 1)", x.tape(5, 0, 1), 1);
         due("read(5, 0)", x.read(5, 0), 0);
     }

@@ -153,6 +153,27 @@ public final class LawsTest extends Checks {
         fault(full.substring(0, 99), 99);
     }
 
+    /** Nothing of a faulty text stays for the law that is read next. */
+    private static void promise10Anew() {
+        WhoMustSwear x = new WhoMustSwear();
+        due("law()", law(x, "free a>0;lose 3 4;both 5 6;least 9;bar a>0;"), -53);
+        due("law()", law(x, "oath p a=1;bar a=2"), 0);
+        x.suit(0, 1, 0);
+        x.claim(0, 1, 0);
+        x.claim(0, 2, 0);
+        due("comes(0)", x.comes(0), 3);
+        due("due(0, 1)", x.due(0, 1), 0);
+        due("due(0, 2)", x.due(0, 2), 0);
+        due("paid(0, false, 0)", x.paid(0, false, 0), 1);
+        due("law()", law(x, "both 5 6;least x"), -25);
+        due("law()", law(x, "oath p a=1;bar a=1"), 1);
+        x.suit(0, 1, 1);
+        x.claim(1, 1, 0);
+        due("due(2, 2)", x.due(2, 2), 2);
+        due("paid(2, false, 0)", x.paid(2, false, 0), 0);
+        due("paid(2, false, 1)", x.paid(2, false, 1), 1);
+    }
+
     private static void promise10Full() {
         WhoMustSwear x = new WhoMustSwear();
         for (int k = 0; k < 6; k++) {
@@ -230,6 +251,30 @@ public final class LawsTest extends Checks {
         holds("a=30&y=12&o=18&w=2&u=0", false);
         holds("a=03", false);
         holds("w=02", true);
+        holds("a<0", false);
+        holds("!a<0", true);
+        holds("a=30&!a<0", true);
+        holds("a<31", true);
+        holds("a<99", true);
+        holds("a>0", true);
+        holds("y<13", true);
+        holds("y<12", false);
+        holds("o<19", true);
+        holds("o>18", false);
+        holds("w<3", true);
+        holds("w>1", true);
+        holds("s<1", true);
+        holds("s>0", false);
+        holds("u>0", true);
+        holds("u<1", false);
+        holds("x<1", false);
+        holds("b<1", true);
+        holds("h<1", false);
+        holds("q<7", true);
+        holds("q<6", false);
+        holds("q<0", false);
+        holds("q>5", true);
+        holds("q>6", false);
     }
 
     private static void promise11Who() {
@@ -328,6 +373,15 @@ public final class LawsTest extends Checks {
         due("due(3, 1): now on the guard's", x.due(3, 1), 1);
     }
 
+    private static void promise12Clause() {
+        due("clause behind lose", suited("lose 1 2;both 1 2;oath p a>0", 5).due(0, 1), 2);
+        due("clause behind free", suited("free a=1;bar q=7;oath p a>0", 5).due(0, 1), 2);
+        WhoMustSwear x = suited("oath p a=9;oath t a=5;least 6;roll a=5", 5, 9);
+        due("due(0, 0): its own turned oath is below least", x.due(0, 0), 1);
+        due("due(0, 1): it is rolled onto the other", x.due(0, 1), 0);
+        due("due(0, 2): so the defendant swears", x.due(0, 2), 0);
+    }
+
     public static void main(String[] args) {
         promise9Feed();
         promise10Words();
@@ -335,6 +389,7 @@ public final class LawsTest extends Checks {
         promise10Tests();
         promise10Depth();
         promise10Clauses();
+        promise10Anew();
         promise10Full();
         promise11Comes();
         promise11Tests();
@@ -343,6 +398,7 @@ public final class LawsTest extends Checks {
         promise12Due();
         promise12Turned();
         promise12Rolled();
+        promise12Clause();
         end("LawsTest");
     }
 }

@@ -67,6 +67,7 @@ public final class TwoTest extends Checks {
         due("ways(0, 1, 0)", x.ways(0, 1, 0), 41);
         due("ways(0, 1, 2)", x.ways(0, 1, 2), 43);
         due("ways(0, 0, 0)", x.ways(0, 0, 0), -5);
+        due("ways(1, 4, 2): the other of 10 is not changed", x.ways(1, 4, 2), 20);
         due("ways(0, 0, 3)", x.ways(0, 0, 3), 4);
         x.answer(0, 3, true);
         due("ways(0, 0, 3): 3 are admitted", x.ways(0, 0, 3), 7);
@@ -79,6 +80,15 @@ public final class TwoTest extends Checks {
         due("ways(0, 0, 6)", x.ways(0, 0, 6), -1);
         due("ways(0, 0, -1)", x.ways(0, 0, -1), -1);
         due("ways(2, 0, 0)", x.ways(2, 0, 0), -1);
+        WhoMustSwear y = suited("free a<3&s=1", 10);
+        due("law()", law(y, "bind a<2"), 1);
+        y.claim(0, 10, 1);
+        due("ways(0, 0, 1)", y.ways(0, 0, 1), 1);
+        due("ways(1, 0, 1): of sort 1", y.ways(1, 0, 1), 1);
+        due("ways(1, 0, 0)", y.ways(1, 0, 0), -5);
+        due("law()", law(y, "free a=1"), 2);
+        due("ways(1, 0, 2): of sort 1", y.ways(1, 0, 2), 2);
+        due("ways(0, 0, 2)", y.ways(0, 0, 2), 1);
         due("ways(-1, 0, 0)", x.ways(-1, 0, 0), -1);
     }
 
@@ -114,6 +124,8 @@ public final class TwoTest extends Checks {
         due("judge of no claims", x.judge(0, 0, 1), -5);
         due("judge of no claims by nothing", x.judge(1, -1, 1), -5);
         due("judge of no claims by another sort", x.judge(2, 0, 1), -12);
+        x.tape(0, -1, 6);
+        due("judge by nothing any more", x.judge(0, 0, 0), 100);
         due("judge(6, 0, 0)", x.judge(6, 0, 0), -1);
         due("judge(-1, 0, 0)", x.judge(-1, 0, 0), -1);
         due("judge(0, 0, 2)", x.judge(0, 0, 2), -1);
@@ -167,6 +179,20 @@ public final class TwoTest extends Checks {
         due("of(2, 9)", x.of(2, 9), 0);
     }
 
+    private static void promise26Anew() {
+        WhoMustSwear x = suited("free a>0");
+        x.image();
+        for (int again = 0; again < 2; again++) {
+            due("claim(0, 5, 1)", x.claim(0, 5, 1), 0);
+            int[] told = {0, 5, 1, 0, 1, 0, 0, 0, 0, 0};
+            for (int what = 0; what < 10; what++) due("of(0, " + what + ")", x.of(0, what), told[what]);
+            x.answer(0, 4, false);
+            for (int what = 0; what < 4; what++) x.proof(0, what, 1);
+            x.truth(0, 44);
+            due("undo()", x.undo(), 0);
+        }
+    }
+
     private static void promise26Stays() {
         WhoMustSwear x = suited("free a>0", 10);
         feed(x, "free");
@@ -193,6 +219,7 @@ public final class TwoTest extends Checks {
         promise24Judge();
         promise25Image();
         promise26Undo();
+        promise26Anew();
         promise26Stays();
         end("TwoTest");
     }

@@ -1307,7 +1307,6 @@ public final class WhoMustSwear {
         void seekBest() {
             weighAnswers();
             int rows = rowCount();
-            bestRow = 0;
             for (int row = 0; row < rows; row++) {
                 answerBy(row);
                 long above = paidInTruth();
