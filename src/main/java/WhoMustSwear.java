@@ -180,8 +180,7 @@ public final class WhoMustSwear {
         }
         int suit = claims[claim].suit;
         hear(hearing, suit, suits[suit].law);
-        Standing found = hearing.standingOfNumber(claim);
-        return found == null ? NONE : found.comesTo;
+        return hearing.comesOf(claim);
     }
 
     public int due(int claim, int what) {
@@ -327,12 +326,7 @@ public final class WhoMustSwear {
         }
         hear(hearing, claims[claim].suit, one);
         hear(otherHearing, claims[claim].suit, other);
-        Standing byOne = hearing.standingOfNumber(claim);
-        Standing byOther = otherHearing.standingOfNumber(claim);
-        if (byOne == null || byOther == null) {
-            return NONE;
-        }
-        return byOne.comesTo * 10 + byOther.comesTo;
+        return hearing.comesOf(claim) * 10 + otherHearing.comesOf(claim);
     }
 
     public int ways(int claim, int one, int other) {
@@ -341,15 +335,10 @@ public final class WhoMustSwear {
         }
         hear(hearing, claims[claim].suit, one);
         hear(otherHearing, claims[claim].suit, other);
-        Standing byOne = hearing.standingOfNumber(claim);
-        Standing byOther = otherHearing.standingOfNumber(claim);
-        if (byOne == null || byOther == null) {
-            return NONE;
-        }
         for (int sum = 1; sum <= MOST_SUM; sum++) {
             hearing.claimInstead(claim, claims[claim], sum);
             otherHearing.claimInstead(claim, claims[claim], sum);
-            if (byOne.comesTo != byOther.comesTo) {
+            if (hearing.comesOf(claim) != otherHearing.comesOf(claim)) {
                 return sum;
             }
         }
@@ -1161,6 +1150,11 @@ public final class WhoMustSwear {
         Standing standingOfNumber(int number) {
             int place = placeOf(number);
             return place < 0 ? null : standings[place];
+        }
+
+        int comesOf(int number) {
+            int place = placeOf(number);
+            return place < 0 ? NONE : standings[place].comesTo;
         }
 
         private int placeOf(int number) {
