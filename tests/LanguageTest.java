@@ -42,6 +42,7 @@ public final class LanguageTest extends Checks {
     private static SourcePositions positions;
     private static CompilationUnitTree unit;
     private static final Set<String> publicNames = new HashSet<>();
+    private static final Set<String> privates = new HashSet<>();
     private static final Map<String, Set<String>> calls = new HashMap<>();
     private static int classes = 0;
 
@@ -103,6 +104,7 @@ public final class LanguageTest extends Checks {
             if (lines > 60) broken(11, name + " has " + lines + " lines");
             if (t.getParameters().size() > 7) broken(11, name + " has " + t.getParameters().size() + " parameters");
             method = name;
+            if (t.getModifiers().getFlags().contains(Modifier.PRIVATE)) privates.add(name);
             calls.computeIfAbsent(name, k -> new LinkedHashSet<>());
             super.visitMethod(t, v);
             method = null;
@@ -195,6 +197,12 @@ public final class LanguageTest extends Checks {
         return 1 + most;
     }
 
+    private static boolean comesBack(String method, String to, Set<String> seen) {
+        if (!calls.containsKey(method) || !seen.add(method)) return false;
+        for (String called : calls.get(method)) if (called.equals(to) || comesBack(called, to, seen)) return true;
+        return false;
+    }
+
     private static final class PublicNames extends TreeScanner<Void, Void> {
         @Override public Void visitMethod(MethodTree t, Void v) {
             if (t.getModifiers().getFlags().contains(Modifier.PUBLIC)) publicNames.add(t.getName().toString());
@@ -216,6 +224,10 @@ public final class LanguageTest extends Checks {
             new Reader().scan(unit, null);
         }
         if (classes > 12) broken(11, classes + " classes");
+        for (String method : calls.keySet()) {
+            boolean recursion = !method.equals("<init>") && comesBack(method, method, new HashSet<>());
+            if (recursion && !privates.contains(method)) broken(8, method + " calls itself and is not private");
+        }
         for (String method : publicNames) {
             int depth = deepest(method, new HashSet<>());
             if (depth > 8) broken(11, method + " goes " + depth + " calls deep");

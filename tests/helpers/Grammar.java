@@ -1,6 +1,8 @@
 import java.util.ArrayList;
+import java.util.HashMap;
 import java.util.HashSet;
 import java.util.List;
+import java.util.Map;
 import java.util.Set;
 
 /**
@@ -10,30 +12,51 @@ import java.util.Set;
 final class Grammar {
     /** The fault of a text; -1: it is a law. */
     static int fault(String text) {
-        Set<List<String>> ways = new HashSet<>();
-        ways.add(List.of("LAW8"));
+        Set<List<String>> ways = Set.of(List.of("LAW8"));
         for (int at = 0; at < text.length(); at++) {
-            Set<List<String>> next = new HashSet<>();
-            for (List<String> way : ways) step(way, text.charAt(at), next);
-            if (next.isEmpty()) return at;
-            ways = next;
+            ways = behind(ways).get(text.charAt(at));
+            if (ways == null) return at;
         }
-        for (List<String> way : ways) if (way.isEmpty()) return -1;
-        return text.length();
+        return isWhole(ways) ? -1 : text.length();
     }
 
-    private static void step(List<String> way, char c, Set<List<String>> next) {
+    /** Of a text that is no fault but that it may end too early: the fault of it with each byte behind it. */
+    static int[] faultsBehind(String text) {
+        Set<List<String>> ways = Set.of(List.of("LAW8"));
+        for (char c : text.toCharArray()) ways = behind(ways).get(c);
+        Map<Character, Set<List<String>>> next = behind(ways);
+        int[] faults = new int[256];
+        for (int b = 0; b < 256; b++) {
+            Set<List<String>> then = next.get((char) b);
+            faults[b] = then == null ? text.length() : isWhole(then) ? -1 : text.length() + 1;
+        }
+        return faults;
+    }
+
+    private static boolean isWhole(Set<List<String>> ways) {
+        for (List<String> way : ways) if (way.isEmpty()) return true;
+        return false;
+    }
+
+    /** By each sign that may come next: the ways from there on. */
+    private static Map<Character, Set<List<String>>> behind(Set<List<String>> ways) {
+        Map<Character, Set<List<String>>> next = new HashMap<>();
+        for (List<String> way : ways) step(way, next);
+        return next;
+    }
+
+    private static void step(List<String> way, Map<Character, Set<List<String>>> next) {
         if (way.isEmpty()) return;
         String head = way.get(0);
         List<String> rest = way.subList(1, way.size());
         if (head.length() == 1) {
-            if (head.charAt(0) == c) next.add(new ArrayList<>(rest));
+            next.computeIfAbsent(head.charAt(0), c -> new HashSet<>()).add(new ArrayList<>(rest));
             return;
         }
         for (List<String> body : bodies(head)) {
             List<String> whole = new ArrayList<>(body);
             whole.addAll(rest);
-            step(whole, c, next);
+            step(whole, next);
         }
     }
 

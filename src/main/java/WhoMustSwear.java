@@ -391,7 +391,7 @@ public final class WhoMustSwear {
         if (!isKind(kind) || act < 0 || act >= ACTS) {
             return 0;
         }
-        return deeds.perform(kind, kind, act, x, 0);
+        return deeds.does(kind, act, x);
     }
 
     public int trace(int i) {
@@ -1402,8 +1402,12 @@ public final class WhoMustSwear {
             return i >= 0 && i < ran && i < KEPT ? bodies[i] : NONE;
         }
 
+        int does(int kind, int act, int x) {
+            return perform(kind, kind, act, x, 0);
+        }
+
         /** The body of an act for the kind self, sought from the kind from on upwards. */
-        int perform(int self, int from, int act, int x, int depth) {
+        private int perform(int self, int from, int act, int x, int depth) {
             int body = bodyFrom(from, act);
             if (body == 0 || depth > DEEPEST) {
                 return 0;
