@@ -78,6 +78,26 @@ public final class AskedTest extends Twins {
         }
     }
 
+    /** Nothing of a suit of many claims is counted in one of few. */
+    private static void fewBehindMany() {
+        WhoMustSwear x = new WhoMustSwear();
+        written(x, "oath p a>0");
+        written(x, "free a>0");
+        for (int s = 0; s < 3; s++) x.suit(0, 1, s == 0 ? 0 : 1);
+        for (int c = 0; c < 4; c++) x.claim(0, 9, 0);
+        x.claim(1, 9, 0);
+        Call[] many = {y -> y.truly(0), y -> y.best(0, -1), y -> y.slips(0), y -> y.ends(0, 2, 0), y -> y.rolled(0, 0), y -> y.wise(0)};
+        for (Call first : many) {
+            Call[] few = {y -> y.truly(2), y -> y.best(2, -1), y -> y.slips(2), y -> y.ends(1, 2, 0), y -> y.best(1, -1), y -> y.best(1, 0),
+                y -> y.slips(1), y -> y.all(1, 1, 0), y -> y.truly(1), y -> y.rolled(1, 1), y -> y.judge(0, 0, 2)};
+            int[] want = {0, 0, 1, 0, 0, 0, 3, 0, 0, 0, -5};
+            for (int k = 0; k < few.length; k++) {
+                first.on(x);
+                due("question " + k + " of few claims", few[k].on(x), want[k]);
+            }
+        }
+    }
+
     public static void main(String[] args) {
         on = Twins::furnished;
         for (int claim = 0; claim < 4; claim++) ofClaims(claim);
@@ -88,6 +108,7 @@ public final class AskedTest extends Twins {
         ofClaims(23);
         ofSuits(4);
         oneBehindAnother();
+        fewBehindMany();
         end("AskedTest");
     }
 }
