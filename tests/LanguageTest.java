@@ -12,6 +12,7 @@ import com.sun.source.tree.MemberReferenceTree;
 import com.sun.source.tree.MemberSelectTree;
 import com.sun.source.tree.MethodInvocationTree;
 import com.sun.source.tree.MethodTree;
+import com.sun.source.tree.NewArrayTree;
 import com.sun.source.tree.NewClassTree;
 import com.sun.source.tree.SynchronizedTree;
 import com.sun.source.tree.ThrowTree;
@@ -21,6 +22,7 @@ import com.sun.source.tree.VariableTree;
 import com.sun.source.tree.WhileLoopTree;
 import com.sun.source.util.JavacTask;
 import com.sun.source.util.SourcePositions;
+import com.sun.source.util.TreePathScanner;
 import com.sun.source.util.TreeScanner;
 import com.sun.source.util.Trees;
 import java.io.File;
@@ -30,6 +32,7 @@ import java.util.LinkedHashSet;
 import java.util.List;
 import java.util.Map;
 import java.util.Set;
+import javax.lang.model.element.Element;
 import javax.lang.model.element.Modifier;
 import javax.tools.JavaCompiler;
 import javax.tools.StandardJavaFileManager;
@@ -38,6 +41,12 @@ import javax.tools.ToolProvider;
 /** The rules of LANGUAGE.md that can be read off the source. */
 public final class LanguageTest extends Checks {
     private static final Set<String> IMPORTS = Set.of("java.util.ArrayList", "java.util.List", "java.util.Arrays", "java.util.Iterator");
+
+    private static final Map<String, Set<String>> LIBRARY = Map.of(
+        "java.lang.String", Set.of("length", "charAt", "isEmpty", "equals", "indexOf", "substring", "toCharArray"),
+        "java.lang.Math", Set.of("abs", "min", "max", "floorDiv", "floorMod"),
+        "java.lang.System", Set.of("arraycopy"),
+        "java.util.Arrays", Set.of("copyOf", "copyOfRange", "fill"));
 
     private static SourcePositions positions;
     private static CompilationUnitTree unit;
@@ -188,6 +197,46 @@ public final class LanguageTest extends Checks {
         }
     }
 
+    /** Which library each call goes to; and that only what is made with an object makes anything: a run is one room. */
+    private static final class Reached extends TreePathScanner<Void, Void> {
+        private final Trees trees;
+        private String method = null;
+
+        Reached(Trees trees) {
+            this.trees = trees;
+        }
+
+        @Override public Void visitMethod(MethodTree t, Void v) {
+            method = t.getName().toString();
+            super.visitMethod(t, v);
+            method = null;
+            return null;
+        }
+
+        private void made(String what) {
+            if (method != null && !method.equals("<init>")) broken(12, method + " makes " + what);
+        }
+
+        @Override public Void visitNewClass(NewClassTree t, Void v) {
+            made("an object");
+            return super.visitNewClass(t, v);
+        }
+
+        @Override public Void visitNewArray(NewArrayTree t, Void v) {
+            made("an array");
+            return super.visitNewArray(t, v);
+        }
+
+        @Override public Void visitMethodInvocation(MethodInvocationTree t, Void v) {
+            Element called = trees.getElement(getCurrentPath());
+            String owner = called.getEnclosingElement().toString();
+            String name = called.getSimpleName().toString();
+            boolean own = owner.startsWith("WhoMustSwear") || name.equals("<init>");
+            if (!own && !LIBRARY.getOrDefault(owner, Set.of()).contains(name)) broken(4, owner + "." + name);
+            return super.visitMethodInvocation(t, v);
+        }
+    }
+
     /** The longest row of calls below a method, methods that call themselves in a ring counted once each. */
     private static int deepest(String method, Set<String> open) {
         if (!calls.containsKey(method) || !open.add(method)) return 0;
@@ -222,6 +271,8 @@ public final class LanguageTest extends Checks {
             new PublicNames().scan(unit, null);
             due("public methods and the constructor", publicNames.size(), 34);
             new Reader().scan(unit, null);
+            task.analyze();
+            new Reached(Trees.instance(task)).scan(unit, null);
         }
         if (classes > 12) broken(11, classes + " classes");
         for (String method : calls.keySet()) {
